@@ -265,7 +265,7 @@ public final class StepNets {
         }
         Group group = nets[slot].group;
         if (group.ownMaps == 0) {
-            group.ownMaps = groupMatcher.countOwn(group, 0);
+            group.ownMaps = groupMatcher.countOwn(group, group.marks);
         }
         return group.ownMaps;
     }
@@ -390,7 +390,7 @@ public final class StepNets {
     private int ownCount(int slot) {
         Network net = nets[slot];
         if (net.own == 0) {
-            net.own = groupMatcher.countOwn(net.group, net.steps);
+            net.own = groupMatcher.countOwn(net.group, net.painted().classAt);
         }
         return net.own;
     }
@@ -422,14 +422,11 @@ public final class StepNets {
         return isSlot(slot) && x >= 0 && x < nets[slot].group.order;
     }
 
-    private static int imageOf(int row, int place, int digits) {
-        return row >> 3 * (digits - 1 - place) & 7;
-    }
-
     private static int firstThen(int first, int second, int digits) {
         int row = 0;
-        for (int place = 0; place < digits; place++) {
-            row = row << 3 | imageOf(second, imageOf(first, place, digits), digits);
+        for (int shift = 3 * (digits - 1); shift >= 0; shift -= 3) {
+            int led = first >> shift & 7;
+            row = row << 3 | second >> 3 * (digits - 1 - led) & 7;
         }
         return row;
     }
@@ -461,7 +458,7 @@ public final class StepNets {
                 if (i >= digits) {
                     return NONE - (i - digits);
                 }
-                return x < rows.length ? '0' + imageOf(rows[x], i, digits) : NONE;
+                return x < rows.length ? '0' + (rows[x] >> 3 * (digits - 1 - i) & 7) : NONE;
             }
             return byteOfNumbers(x, i);
         }
@@ -501,6 +498,7 @@ public final class StepNets {
         final int[] inverse;
         final int[] period;
         final int[] conjugates;
+        final int[] marks;
         final Names names;
         final int[] origin;
         final int primes;
@@ -517,9 +515,11 @@ public final class StepNets {
             inverse = new int[order];
             period = new int[order];
             conjugates = new int[order];
+            marks = new int[order];
             findInverses();
             findPeriods();
             findClasses();
+            findMarks();
         }
 
         int times(int x, int y) {
@@ -556,6 +556,33 @@ public final class StepNets {
                 }
                 conjugates[x] = set;
             }
+        }
+
+        /** Period, size of the class, how many have it as their square: a group map keeps them all. */
+        private void findMarks() {
+            for (int x = 0; x < order; x++) {
+                marks[x] += period[x] << 10 | Integer.bitCount(conjugates[x]) << 5;
+                marks[times(x, x)]++;
+            }
+        }
+
+        boolean hasMarksOf(Group second) {
+            for (int x = 0; x < order; x++) {
+                if (countMark(marks[x]) != second.countMark(marks[x])) {
+                    return false;
+                }
+            }
+            return order == second.order;
+        }
+
+        private int countMark(int mark) {
+            int found = 0;
+            for (int x = 0; x < order; x++) {
+                if (marks[x] == mark) {
+                    found++;
+                }
+            }
+            return found;
         }
 
         boolean isSet(int set) {
@@ -682,32 +709,13 @@ public final class StepNets {
                 int covered = smaller;
                 for (int x = 0; x < order; x++) {
                     if ((covered >> x & 1) == 0) {
-                        int larger = joined(smaller, x);
+                        int larger = span(smaller | 1 << x);
                         keepSubgroup(larger);
                         covered |= hasNoneBetween(smaller, larger) ? larger : 1 << x;
                     }
                 }
             }
             sortSubgroups();
-        }
-
-        private int joined(int smaller, int x) {
-            int found = smaller;
-            int open = smaller;
-            int powers = 1 << x;
-            for (int round = 0; round < order && open != 0; round++) {
-                int reached = onward(open, powers);
-                open = reached & ~found;
-                found |= open;
-                for (int y = 0; y < order && open != 0; y++) {
-                    if ((open >> y & 1) != 0) {
-                        int coset = shifted(y, smaller);
-                        open |= coset & ~found;
-                        found |= coset;
-                    }
-                }
-            }
-            return found;
         }
 
         /** With a prime index any element more makes the same larger one. */
@@ -1047,7 +1055,7 @@ public final class StepNets {
             }
         }
 
-        private static int mix(int a, int b) {
+        static int mix(int a, int b) {
             int h = a * 0x9E3779B1 + b;
             h = (h ^ h >>> 15) * 0x85EBCA77;
             return h ^ h >>> 13;
@@ -1252,7 +1260,8 @@ public final class StepNets {
     private static final class GroupMatcher {
         private Group from;
         private Group to;
-        private int steps;
+        private int[] fromSorts;
+        private int[] toSorts;
         private int makerCount;
         private final int[] makers = new int[LIMIT];
         private final int[] makerImage = new int[LIMIT];
@@ -1263,10 +1272,11 @@ public final class StepNets {
             makerCount = 0;
         }
 
-        private void begin(Group first, Group second, int kept) {
+        private void begin(Group first, Group second, int[] firstSorts, int[] secondSorts) {
             from = first;
             to = second;
-            steps = kept;
+            fromSorts = firstSorts;
+            toSorts = secondSorts;
             makerCount = 0;
             int made = 1;
             for (int x = 1; x < first.order && makerCount < LIMIT; x++) {
@@ -1279,7 +1289,7 @@ public final class StepNets {
         }
 
         private boolean fits(int x, int y) {
-            return from.period[x] == to.period[y] && (steps >> x & 1) == (steps >> y & 1);
+            return from.marks[x] == to.marks[y] && fromSorts[x] == toSorts[y];
         }
 
         /** What the images of the first makers lead all to that these make; false if they contradict. */
@@ -1333,8 +1343,8 @@ public final class StepNets {
         /** Makers are the least that are needed, so the first images of them make the first row. */
         void findFirst(Group first, Group second, int[] row) {
             boolean found = false;
-            if (first.order == second.order) {
-                begin(first, second, 0);
+            if (first.hasMarksOf(second)) {
+                begin(first, second, first.marks, second.marks);
                 image[0] = 0;
                 found = complete(0);
             }
@@ -1343,9 +1353,12 @@ public final class StepNets {
             }
         }
 
-        /** Of maps that have the makers ahead stay: on how many each maker can be led, multiplied. */
-        int countOwn(Group group, int kept) {
-            begin(group, group, kept);
+        /**
+         * Maps of a group on itself that keep sorts of elements: of those that have the makers ahead
+         * stay, on how many each maker can be led, multiplied.
+         */
+        int countOwn(Group group, int[] sorts) {
+            begin(group, group, sorts, sorts);
             int many = 1;
             for (int level = 0; level < makerCount; level++) {
                 int here = 0;
@@ -1364,11 +1377,14 @@ public final class StepNets {
     /** Looks through sets of elements, the least first, for steps that make a given network. */
     private static final class OtherFinder {
         private static final int SETS = 4000;
+        private static final int LONGEST_WALK = 6;
 
         private final int[] chosen = new int[OTHER_LIMIT];
-        private final int[] walks = new int[LIMIT];
-        private final Colouring colouring = new Colouring();
         private int many;
+        private final int[] walks = new int[LIMIT];
+        private final int[] longer = new int[LIMIT];
+        private final int[] traces = new int[LIMIT];
+        private final Colouring colouring = new Colouring();
 
         OtherFinder() {
             many = 0;
@@ -1381,24 +1397,28 @@ public final class StepNets {
             }
             Colouring wanted = net.painted();
             chooseOf(net);
-            long profile = profileOf(net.group);
+            long shortProfile = shortWalks(net.group);
+            int longProfile = longWalks(net.group);
             for (int i = 0; i < many; i++) {
                 chosen[i] = i + 1;
             }
             for (int sets = 0; sets < SETS && chosen[many - 1] < group.order; sets++) {
-                if (profileOf(group) == profile) {
-                    int set = chosenSet();
-                    colouring.paint(group, set);
-                    if (matcher.fits(wanted, colouring)) {
-                        colouring.spreadOut(group);
-                        if (matcher.isMatch(wanted, colouring)) {
-                            return set;
-                        }
-                    }
+                if (shortWalks(group) == shortProfile && longWalks(group) == longProfile
+                        && isWanted(wanted, group, matcher)) {
+                    return chosenSet();
                 }
                 chooseNext();
             }
             return NONE;
+        }
+
+        private boolean isWanted(Colouring wanted, Group group, NetMatcher matcher) {
+            colouring.paint(group, chosenSet());
+            if (!matcher.fits(wanted, colouring)) {
+                return false;
+            }
+            colouring.spreadOut(group);
+            return matcher.isMatch(wanted, colouring);
         }
 
         private void chooseOf(Network net) {
@@ -1430,7 +1450,7 @@ public final class StepNets {
         }
 
         /** How often two steps come to 0, to a step, to others: alike networks have it alike, and it is soon told. */
-        private long profileOf(Group group) {
+        private long shortWalks(Group group) {
             int set = chosenSet();
             for (int z = 0; z < group.order; z++) {
                 walks[z] = 0;
@@ -1448,6 +1468,32 @@ public final class StepNets {
                 }
             }
             return profile;
+        }
+
+        /** How often more steps come to each point, mixed; goes on from the walks of two steps. */
+        private int longWalks(Group group) {
+            for (int z = 0; z < group.order; z++) {
+                traces[z] = walks[z];
+            }
+            for (int steps = 3; steps <= LONGEST_WALK; steps++) {
+                for (int z = 0; z < group.order; z++) {
+                    longer[z] = 0;
+                }
+                for (int i = 0; i < many; i++) {
+                    for (int z = 0; z < group.order; z++) {
+                        longer[group.times(z, chosen[i])] += walks[z];
+                    }
+                }
+                for (int z = 0; z < group.order; z++) {
+                    walks[z] = longer[z];
+                    traces[z] = Colouring.mix(traces[z], longer[z]);
+                }
+            }
+            int sum = Colouring.mix(traces[0], many);
+            for (int z = 0; z < group.order; z++) {
+                sum += Colouring.mix(traces[z], 0);
+            }
+            return sum;
         }
     }
 
@@ -1486,18 +1532,23 @@ public final class StepNets {
                 sort = END;
                 return;
             }
-            sort = sortOf(bytes[start]);
-            end = start + 1;
-            while (end < length && sort != SIGN && sortOf(bytes[end]) == sort) {
-                end++;
+            if (goesOn('a', 'z')) {
+                sort = WORD;
+            } else if (goesOn('0', '9')) {
+                sort = NUMBER;
+            } else {
+                sort = SIGN;
+                end = start + 1;
             }
         }
 
-        private static int sortOf(int sign) {
-            if (sign >= 'a' && sign <= 'z') {
-                return WORD;
+        /** Ends behind all bytes from the start on that are such ones: whether there are some. */
+        private boolean goesOn(char lowest, char highest) {
+            end = start;
+            while (end < length && bytes[end] >= lowest && bytes[end] <= highest) {
+                end++;
             }
-            return sign >= '0' && sign <= '9' ? NUMBER : SIGN;
+            return end > start;
         }
 
         boolean isWord(String word) {
