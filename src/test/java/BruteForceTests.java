@@ -49,6 +49,7 @@ public final class BruteForceTests {
             }
         }
         searchPairs();
+        firstOfMany();
         quotients();
         Check.end();
     }
@@ -503,6 +504,31 @@ public final class BruteForceTests {
         for (int k = 0; k < order && tries < MOST_TRIES; k++) {
             Check.due("alike of " + with, x.alike(k), like ? firstRow[k] : -1);
         }
+    }
+
+    /** Networks with maps of which one that is found sooner, point by least choice, is not the first. */
+    private static void firstOfMany() {
+        String[][] texts = {
+            {"group q 3;steps 4 5 6 8;", "group q 3;steps 1 2 6 8;"},
+            {"group q 2 x c 2;steps 8 9 10 14;", "group q 4;steps 1 3 8 12;"},
+            {"group q 2 x c 2;steps 6 12 13 14;", "group q 2 x c 2;steps 1 3 4 9;"},
+            {"group d 4 x c 2;steps 5 12 14 15;", "group c 4 x c 4;steps 1 3 4 12;"},
+            {"group q 4;steps 10 11 13;", "group q 4;steps 1 3 8;"}
+        };
+        int alike = 0;
+        for (String[] pair : texts) {
+            StepNets x = Check.told(pair[0], pair[1]);
+            order = x.size(0, 0);
+            far = allFar(arcsOf(tableOf(x, 0), stepsOf(x, 0)));
+            secondFar = allFar(arcsOf(tableOf(x, 1), stepsOf(x, 1)));
+            boolean like = findNetMap();
+            alike += like ? 1 : 0;
+            for (int k = 0; k < order; k++) {
+                Check.due(pair[0] + " alike " + pair[1], x.alike(k), like ? firstRow[k] : -1);
+            }
+            Check.holds("not too many tries", tries < MOST_TRIES);
+        }
+        Check.holds("some are alike", alike > 2);
     }
 
     private static int leastOther(int steps) {

@@ -112,6 +112,8 @@ public final class PromiseTests {
         Check.due("one step", x.size(0, 1), 1);
         Check.due("5 is 3", x.element(0, 3, 2), 1);
         Check.due("each undoes itself", x.size(0, 6), 2);
+        Check.due("by 0 1", x.quotient(0, 0b11), 2);
+        Check.holds("named as it was", Check.nameOf(x, 0, 1).equals("4''"));
     }
 
     private static void undo() {

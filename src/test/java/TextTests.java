@@ -177,6 +177,7 @@ public final class TextTests {
         fault("perms 1230,1023;", 3, 0);
         fault("  perms 1230,1023;", 3, 2);
         fault("perms 12345670,10234567;", 3, 0);
+        fault("perms 1234560,0246135;", 3, 0);
     }
 
     private static void firstFaultCounts() {
@@ -258,6 +259,10 @@ public final class TextTests {
         Check.tell(x, 0, "steps 6;");
         Check.tell(x, 0, "perms 1203;");
         Check.due("no steps with perms", x.size(0, 1), 0);
+        Check.due("a group behind steps", Check.tell(x, 0, "steps 1;group c 2;"), -31);
+        Check.due("its place", x.fault(1), 8);
+        Check.due("perms behind steps", Check.tell(x, 0, "steps 1; perms 10;"), -31);
+        Check.due("its place", x.fault(1), 9);
         x.step(0, 1);
         Check.due("acts", x.count(0), 1);
         Check.tell(x, 1, "");
