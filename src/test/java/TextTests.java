@@ -36,161 +36,145 @@ public final class TextTests {
         Check.due("its place", y.fault(1), 299);
     }
 
-    private static void taken(String text, int elements) {
-        StepNets x = new StepNets();
-        Check.due("taken: " + text, Check.tell(x, 0, text), elements);
-        Check.due("fault(0) of " + text, x.fault(0), 0);
-        Check.due("fault(1) of " + text, x.fault(1), -1);
-    }
-
     private static void textsThatAreTaken() {
-        taken("", 1);
-        taken("    ", 1);
-        taken("group c1;", 1);
-        taken("group c 20;", 20);
-        taken("group d 10;", 20);
-        taken("group d1;", 2);
-        taken("group q 5;", 20);
-        taken("group q2;", 8);
-        taken("group a;", 12);
-        taken("group c 05;", 5);
-        taken("group c2x c3;", 6);
-        taken("   group   c   2   x   c   3   ;   ", 6);
-        taken("group a x c 1 x c 1;", 12);
-        taken("group c 4 x c 5;", 20);
-        taken("group c 2 x c 2 x c 2 x c 2;", 16);
-        taken("perms 01;", 1);
-        taken("perms 10;", 2);
-        taken("perms 10,10,01;", 2);
-        taken("perms 12345670;", 8);
-        taken("perms 12340 , 13024 ;", 20);
-        taken("both;both;both;", 1);
-        taken("group c 3;steps 1;steps 2;both;", 3);
-        taken("group c 3;steps2 1 2 1;", 3);
+        Check.taken("", 1);
+        Check.taken("    ", 1);
+        Check.taken("group c1;", 1);
+        Check.taken("group c 20;", 20);
+        Check.taken("group d 10;", 20);
+        Check.taken("group d1;", 2);
+        Check.taken("group q 5;", 20);
+        Check.taken("group q2;", 8);
+        Check.taken("group a;", 12);
+        Check.taken("group c 05;", 5);
+        Check.taken("group c2x c3;", 6);
+        Check.taken("   group   c   2   x   c   3   ;   ", 6);
+        Check.taken("group a x c 1 x c 1;", 12);
+        Check.taken("group c 4 x c 5;", 20);
+        Check.taken("group c 2 x c 2 x c 2 x c 2;", 16);
+        Check.taken("perms 01;", 1);
+        Check.taken("perms 10;", 2);
+        Check.taken("perms 10,10,01;", 2);
+        Check.taken("perms 12345670;", 8);
+        Check.taken("perms 12340 , 13024 ;", 20);
+        Check.taken("both;both;both;", 1);
+        Check.taken("group c 3;steps 1;steps 2;both;", 3);
+        Check.taken("group c 3;steps2 1 2 1;", 3);
         StringBuilder ones = new StringBuilder("group c1");
         while (ones.length() < 290) {
             ones.append("x c1");
         }
-        taken(ones.append(';').toString(), 1);
+        Check.taken(ones.append(';').toString(), 1);
         StringBuilder rows = new StringBuilder("perms 10");
         while (rows.length() < 290) {
             rows.append(",01");
         }
-        taken(rows.append(';').toString(), 2);
-    }
-
-    private static void fault(String text, int found, int place) {
-        StepNets x = new StepNets();
-        Check.due("at fault: " + text, Check.tell(x, 0, text), -30 - found);
-        Check.due("fault(0) of " + text, x.fault(0), found);
-        Check.due("fault(1) of " + text, x.fault(1), place);
-        Check.due("count(1) of " + text, x.count(1), 0);
-        Check.due("size of " + text, x.size(0, 0), 1);
+        Check.taken(rows.append(';').toString(), 2);
     }
 
     private static void faultsOfWhatCannotStand() {
-        fault(";", 1, 0);
-        fault("  ;", 1, 2);
-        fault("group c 3;;", 1, 10);
-        fault("group", 1, 5);
-        fault("group   ", 1, 8);
-        fault("groupc 3;", 1, 0);
-        fault("Group c 3;", 1, 0);
-        fault("group C 3;", 1, 6);
-        fault("group c;", 1, 7);
-        fault("group c x c 2;", 1, 8);
-        fault("group c 3", 1, 9);
-        fault("group c 3 4;", 1, 10);
-        fault("group c 3 444;", 1, 10);
-        fault("group c 3, c 2;", 1, 9);
-        fault("group c 3 x;", 1, 11);
-        fault("group c 3 x x c 2;", 1, 12);
-        fault("group c3xc2;", 1, 8);
-        fault("group cc 3;", 1, 6);
-        fault("group a 3;", 1, 8);
-        fault("group 3;", 1, 6);
-        fault("group;", 1, 5);
-        fault("x;", 1, 0);
-        fault("3;", 1, 0);
-        fault("perms;", 1, 5);
-        fault("perms 10,;", 1, 9);
-        fault("perms 10 10;", 1, 9);
-        fault("perms 10,c;", 1, 9);
-        fault("perms x;", 1, 6);
-        fault("perms 10 x 10;", 1, 9);
-        fault("group c 3; steps;", 1, 16);
-        fault("group c 3; steps 1, 2;", 1, 18);
-        fault("group c 3; steps 1 both;", 1, 19);
-        fault("both 1;", 1, 5);
-        fault("both", 1, 4);
-        fault("both;group c 2;", 1, 5);
-        fault("both;perms 10;", 1, 5);
-        fault("group c 2;group c 2;", 1, 10);
-        fault("group c 2;perms 10;", 1, 10);
-        fault("perms 10;group c 2;", 1, 9);
-        fault("perms 10;perms 10;", 1, 9);
-        fault("group c 3;steps 1;group c 2;", 1, 18);
-        fault("group c 3;steps 1;perms 10;", 1, 18);
-        fault("group\tc 3;", 1, 5);
-        fault("group c 3;\n", 1, 10);
-        fault("group c 3;\0", 1, 10);
+        Check.fault(";", 1, 0);
+        Check.fault("  ;", 1, 2);
+        Check.fault("group c 3;;", 1, 10);
+        Check.fault("group", 1, 5);
+        Check.fault("group   ", 1, 8);
+        Check.fault("groupc 3;", 1, 0);
+        Check.fault("Group c 3;", 1, 0);
+        Check.fault("group C 3;", 1, 6);
+        Check.fault("group c;", 1, 7);
+        Check.fault("group c x c 2;", 1, 8);
+        Check.fault("group c 3", 1, 9);
+        Check.fault("group c 3 4;", 1, 10);
+        Check.fault("group c 3 444;", 1, 10);
+        Check.fault("group c 3, c 2;", 1, 9);
+        Check.fault("group c 3 x;", 1, 11);
+        Check.fault("group c 3 x x c 2;", 1, 12);
+        Check.fault("group c3xc2;", 1, 8);
+        Check.fault("group cc 3;", 1, 6);
+        Check.fault("group a 3;", 1, 8);
+        Check.fault("group 3;", 1, 6);
+        Check.fault("group;", 1, 5);
+        Check.fault("x;", 1, 0);
+        Check.fault("3;", 1, 0);
+        Check.fault("perms;", 1, 5);
+        Check.fault("perms 10,;", 1, 9);
+        Check.fault("perms 10 10;", 1, 9);
+        Check.fault("perms 10,c;", 1, 9);
+        Check.fault("perms x;", 1, 6);
+        Check.fault("perms 10 x 10;", 1, 9);
+        Check.fault("group c 3; steps;", 1, 16);
+        Check.fault("group c 3; steps 1, 2;", 1, 18);
+        Check.fault("group c 3; steps 1 both;", 1, 19);
+        Check.fault("both 1;", 1, 5);
+        Check.fault("both", 1, 4);
+        Check.fault("both;group c 2;", 1, 5);
+        Check.fault("both;perms 10;", 1, 5);
+        Check.fault("group c 2;group c 2;", 1, 10);
+        Check.fault("group c 2;perms 10;", 1, 10);
+        Check.fault("perms 10;group c 2;", 1, 9);
+        Check.fault("perms 10;perms 10;", 1, 9);
+        Check.fault("group c 3;steps 1;group c 2;", 1, 18);
+        Check.fault("group c 3;steps 1;perms 10;", 1, 18);
+        Check.fault("group\tc 3;", 1, 5);
+        Check.fault("group c 3;\n", 1, 10);
+        Check.fault("group c 3;\0", 1, 10);
     }
 
     private static void faultsOfNumbers() {
-        fault("group c 0;", 2, 8);
-        fault("group c 00;", 2, 8);
-        fault("group c 21;", 2, 8);
-        fault("group c 001;", 2, 8);
-        fault("group c 99999999999;", 2, 8);
-        fault("group d 0;", 2, 8);
-        fault("group d 11;", 2, 8);
-        fault("group q 1;", 2, 8);
-        fault("group q 6;", 2, 8);
-        fault("group c 3 x d 11;", 2, 14);
-        fault("group c20x c0", 2, 12);
-        fault("steps 1;", 2, 6);
-        fault("group c 3;steps 0;", 2, 16);
-        fault("group c 3;steps 3;", 2, 16);
-        fault("group c 3;steps 1 2 3;", 2, 20);
-        fault("group c 3;steps 001;", 2, 16);
-        fault("group c 1;steps 1;", 2, 16);
-        fault("perms 0;", 2, 6);
-        fault("perms 1;", 2, 6);
-        fault("perms 1 0", 2, 6);
-        fault("perms 00;", 2, 6);
-        fault("perms 12;", 2, 6);
-        fault("perms 02;", 2, 6);
-        fault("perms 012345678;", 2, 6);
-        fault("perms 19;", 2, 6);
-        fault("perms 10,012;", 2, 9);
-        fault("perms 102,01;", 2, 10);
-        fault("perms 10,11;", 2, 9);
+        Check.fault("group c 0;", 2, 8);
+        Check.fault("group c 00;", 2, 8);
+        Check.fault("group c 21;", 2, 8);
+        Check.fault("group c 001;", 2, 8);
+        Check.fault("group c 99999999999;", 2, 8);
+        Check.fault("group d 0;", 2, 8);
+        Check.fault("group d 11;", 2, 8);
+        Check.fault("group q 1;", 2, 8);
+        Check.fault("group q 6;", 2, 8);
+        Check.fault("group c 3 x d 11;", 2, 14);
+        Check.fault("group c20x c0", 2, 12);
+        Check.fault("steps 1;", 2, 6);
+        Check.fault("group c 3;steps 0;", 2, 16);
+        Check.fault("group c 3;steps 3;", 2, 16);
+        Check.fault("group c 3;steps 1 2 3;", 2, 20);
+        Check.fault("group c 3;steps 001;", 2, 16);
+        Check.fault("group c 1;steps 1;", 2, 16);
+        Check.fault("perms 0;", 2, 6);
+        Check.fault("perms 1;", 2, 6);
+        Check.fault("perms 1 0", 2, 6);
+        Check.fault("perms 00;", 2, 6);
+        Check.fault("perms 12;", 2, 6);
+        Check.fault("perms 02;", 2, 6);
+        Check.fault("perms 012345678;", 2, 6);
+        Check.fault("perms 19;", 2, 6);
+        Check.fault("perms 10,012;", 2, 9);
+        Check.fault("perms 102,01;", 2, 10);
+        Check.fault("perms 10,11;", 2, 9);
     }
 
     private static void faultsOfTooMany() {
-        fault("group c 3 x c 7;", 3, 12);
-        fault("group c 20 x c 2;", 3, 13);
-        fault("group c 2 x a;", 3, 12);
-        fault("group a x a;", 3, 10);
-        fault("group d 3 x q 2;", 3, 12);
-        fault("group c 2 x c 3 x c 4;", 3, 18);
-        fault("perms 1230,1023;", 3, 0);
-        fault("  perms 1230,1023;", 3, 2);
-        fault("perms 12345670,10234567;", 3, 0);
-        fault("perms 1234560,0246135;", 3, 0);
+        Check.fault("group c 3 x c 7;", 3, 12);
+        Check.fault("group c 20 x c 2;", 3, 13);
+        Check.fault("group c 2 x a;", 3, 12);
+        Check.fault("group a x a;", 3, 10);
+        Check.fault("group d 3 x q 2;", 3, 12);
+        Check.fault("group c 2 x c 3 x c 4;", 3, 18);
+        Check.fault("perms 1230,1023;", 3, 0);
+        Check.fault("  perms 1230,1023;", 3, 2);
+        Check.fault("perms 12345670,10234567;", 3, 0);
+        Check.fault("perms 1234560,0246135;", 3, 0);
     }
 
     private static void firstFaultCounts() {
-        fault("group c 20 x c 2 !", 3, 13);
-        fault("group c 2 x a 5", 3, 12);
-        fault("group c 5 x c 0;", 2, 14);
-        fault("perms 1230,1023", 3, 0);
-        fault("perms 1230,1023 x", 3, 0);
-        fault("perms 1230,1023,", 1, 16);
-        fault("perms 1230,1023,1;", 2, 16);
-        fault("group c 3;steps 5 !", 2, 16);
-        fault("both;perms 1230,1023;", 1, 5);
-        fault("!perms 1230,1023;", 1, 0);
+        Check.fault("group c 20 x c 2 !", 3, 13);
+        Check.fault("group c 2 x a 5", 3, 12);
+        Check.fault("group c 5 x c 0;", 2, 14);
+        Check.fault("perms 1230,1023", 3, 0);
+        Check.fault("perms 1230,1023 x", 3, 0);
+        Check.fault("perms 1230,1023,", 1, 16);
+        Check.fault("perms 1230,1023,1;", 2, 16);
+        Check.fault("group c 3;steps 5 !", 2, 16);
+        Check.fault("both;perms 1230,1023;", 1, 5);
+        Check.fault("!perms 1230,1023;", 1, 0);
     }
 
     private static void faultChangesNothing() {
@@ -337,8 +321,8 @@ public final class TextTests {
     }
 
     private static void bytesAboveSevenBits() {
-        fault("group c 3;" + (char) 0xB2, 1, 10);
-        fault((char) 0xE7 + "roup c 3;", 1, 0);
-        fault("group" + (char) 0xA0 + "c 3;", 1, 5);
+        Check.fault("group c 3;" + (char) 0xB2, 1, 10);
+        Check.fault((char) 0xE7 + "roup c 3;", 1, 0);
+        Check.fault("group" + (char) 0xA0 + "c 3;", 1, 5);
     }
 }
