@@ -307,6 +307,7 @@ final class BoundaryOfPromises {
         sizes("group q 2;", 8, 0, 2, 5, 6, 2, 4);
         sizes("group a;", 12, 0, 1, 4, 10, 4, 6);
         sizes("group c 2 x c 2 x c 2 x c 2;", 16, 0, 16, 16, 67, 1, 2);
+        sizes("group c 2 x c 2 x c 2;", 8, 0, 8, 8, 16, 1, 2);
         sizes("group d 4 x c 2;", 16, 0, 4, 10, 35, 2, 4);
         sizes("perms 12340,13024;", 20, 0, 1, 5, 14, 5, 20);
         Doc.promise(9, "-2.");

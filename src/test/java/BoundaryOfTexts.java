@@ -423,6 +423,25 @@ final class BoundaryOfTexts {
         Check.fault("group c 3;steps x 3;", 1, 16);
         Check.fault("group c 20 x c 21;", 2, 15);
         Check.fault("group c 20 x q 1;", 2, 15);
+        firstOfTwoThatCannotStand();
+    }
+
+    /** Where a LINE breaks off at its ; and another fault follows. */
+    private static void firstOfTwoThatCannotStand() {
+        Check.fault(";;", 1, 0);
+        Check.fault(";x", 1, 0);
+        Check.fault("x;;", 1, 0);
+        Check.fault("group;!", 1, 5);
+        Check.fault("group c;!", 1, 7);
+        Check.fault("group c 2 x;!", 1, 11);
+        Check.fault("group c 0;!", 2, 8);
+        Check.fault("group a x a;!", 3, 10);
+        Check.fault("perms;!", 1, 5);
+        Check.fault("perms 10,;!", 1, 9);
+        Check.fault("perms 11;!", 2, 6);
+        Check.fault("group c 3;steps;!", 1, 15);
+        Check.fault("group c 3;steps 3;!", 2, 16);
+        Check.fault("group c 3;group c 3;!", 1, 10);
     }
 
     private static void cutTexts() {
