@@ -247,6 +247,25 @@ final class BoundaryOfTexts {
         named("perms 120,012,021;", "012", "120", "021", "201", "210", "102");
         named("perms 12345670;", "01234567", "12345670", "23456701", "34567012", "45670123", "56701234", "67012345",
             "70123456");
+        toldAgain();
+    }
+
+    /** Nothing is left of ELEMENTS that were told before. */
+    private static void toldAgain() {
+        StepNets x = new StepNets();
+        String[] texts = {TWENTY + ";", TWENTY + ";", "perms 12345;", TWENTY_ONE + ";", TWENTY + ";", "perms 10234;"};
+        int[] answers = {20, 20, -32, -33, 20, 2};
+        for (int i = 0; i < texts.length; i++) {
+            Check.due(texts[i] + " told as number " + i, Check.tell(x, 0, texts[i]), answers[i]);
+        }
+        Check.due("first the first one, as ever", x.product(0, 1, 1), 0);
+        StepNets once = Check.told(TWENTY + ";", "");
+        StepNets twice = Check.told(TWENTY + ";", TWENTY + ";");
+        for (int i = 0; i < 20; i++) {
+            for (int j = 0; j < 20; j++) {
+                Check.due("told twice: " + i + " times " + j, twice.product(1, i, j), once.product(0, i, j));
+            }
+        }
     }
 
     private static void named(String text, String... names) {

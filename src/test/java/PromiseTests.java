@@ -413,6 +413,10 @@ public final class PromiseTests {
         symmetriesOf("group c 4 x c 4;steps 1 3 4 12 5 15;", 192);
         symmetriesOf("group c 4 x c 4;steps 1 2 3 4 8 12;", 1152);
         symmetriesOf("group d 5;steps 5 6;", 20);
+        symmetriesOf("group c 13;steps 1 3 4 9 10 12;", 78);
+        symmetriesOf("group c 13;steps 2 5 6 7 8 11;", 78);
+        symmetriesOf("group c 17;steps 1 2 4 8 9 13 15 16;", 136);
+        symmetriesOf("group c 17;steps 3 5 6 7 10 11 12 14;", 136);
         symmetriesOf("group c 10 x c 2;steps 1 9 10;", 40);
         symmetriesOf("group d 10;steps 1 9 10;", 40);
     }
@@ -451,6 +455,8 @@ public final class PromiseTests {
         regularOf("group d 5;steps 5 6;", 1, 1, 1, 2);
         regularOf("group c 4;steps 1 2 3;", 1, 1, 0, 2);
         regularOf("group c 4;steps 1 2;", 0, 0, 1, 1);
+        regularOf("group c 13;steps 1 3 4 9 10 12;", 1, 1, 1, 6);
+        regularOf("group c 17;steps 3 5 6 7 10 11 12 14;", 1, 1, 1, 8);
         StepNets x = new StepNets();
         Check.due("what 4", x.regular(0, 4), -2);
         Check.due("what -1", x.regular(0, -1), -2);
