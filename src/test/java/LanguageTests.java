@@ -1,3 +1,4 @@
+import java.io.DataInputStream;
 import java.io.IOException;
 import java.lang.reflect.Method;
 import java.lang.reflect.Modifier;
@@ -6,6 +7,7 @@ import java.nio.file.Path;
 import java.util.ArrayList;
 import java.util.Arrays;
 import java.util.List;
+import java.util.Set;
 import java.util.TreeSet;
 import java.util.regex.Matcher;
 import java.util.regex.Pattern;
@@ -23,6 +25,11 @@ public final class LanguageTests {
         "hashCode", "toString", "package", "protected", "volatile", "Object", "import"
     };
 
+    private static final Set<String> LIBRARY = Set.of(
+        "java/lang/Object.<init>", "java/lang/String.length", "java/lang/String.charAt", "java/lang/Integer.bitCount",
+        "java/lang/Math.max", "java/lang/Math.min", "java/lang/Math.floorMod", "java/lang/System.arraycopy"
+    );
+
     public static void main(String[] args) throws IOException {
         String source = Files.readString(Path.of(SOURCE));
         String code = source.replaceAll("(?s)/\\*.*?\\*/", " ").replaceAll("//[^\n]*", " ").replaceAll("\"[^\"\n]*\"", "\"\"");
@@ -35,6 +42,7 @@ public final class LanguageTests {
         face();
         nestedClasses();
         methods(code);
+        library();
         Check.end();
     }
 
@@ -96,5 +104,59 @@ public final class LanguageTests {
             Check.holds(heads.group() + " has at most sixty lines", last - first + 1 <= 60);
         }
         Check.holds("methods were found", many > 100);
+    }
+
+    /** What the compiled classes call of the library is what LANGUAGE.md lists, and of that what is used. */
+    private static void library() throws IOException {
+        List<Class<?>> all = new ArrayList<>(List.of(StepNets.class.getDeclaredClasses()));
+        all.add(StepNets.class);
+        int calls = 0;
+        for (Class<?> each : all) {
+            try (DataInputStream in = new DataInputStream(StepNets.class.getResourceAsStream(each.getName() + ".class"))) {
+                for (String call : calledBy(in)) {
+                    calls++;
+                    Check.holds(each.getName() + " may use " + call, call.startsWith("StepNets") || LIBRARY.contains(call));
+                }
+            }
+        }
+        Check.holds("calls were found", calls > 50);
+    }
+
+    /** Methods and fields that a class file names, by its table of constants. */
+    private static List<String> calledBy(DataInputStream in) throws IOException {
+        in.skipBytes(8);
+        int many = in.readUnsignedShort();
+        String[] texts = new String[many];
+        int[] first = new int[many];
+        int[] second = new int[many];
+        List<Integer> references = new ArrayList<>();
+        List<String> called = new ArrayList<>();
+        for (int i = 1; i < many; i++) {
+            int tag = in.readUnsignedByte();
+            switch (tag) {
+                case 1 -> texts[i] = in.readUTF();
+                case 3, 4 -> in.readInt();
+                case 5, 6 -> {
+                    in.readLong();
+                    i++;
+                }
+                case 7, 8, 16 -> first[i] = in.readUnsignedShort();
+                case 9, 10, 11, 12 -> {
+                    first[i] = in.readUnsignedShort();
+                    second[i] = in.readUnsignedShort();
+                    if (tag < 12) {
+                        references.add(i);
+                    }
+                }
+                default -> {
+                    called.add("what no class here may need: constant " + tag);
+                    return called;
+                }
+            }
+        }
+        for (int i : references) {
+            called.add(texts[first[first[i]]] + "." + texts[first[second[i]]]);
+        }
+        return called;
     }
 }
