@@ -2,7 +2,7 @@ import java.util.Random;
 
 /** Whole runs of calls at random, on the class and on PlainNets: each answer is the same. */
 public final class ModelTests {
-    private static final int RUNS = 60;
+    private static final int RUNS = 80;
     private static final int CALLS = 512;
     private static final String[] GROUPS = {
         "group c 6;", "group d 3;", "group c 4;", "group c 2 x c 2;", "group d 4;", "group q 2;", "group c 8;",
@@ -45,13 +45,15 @@ public final class ModelTests {
     }
 
     private void go() {
-        while (calls < CALLS - 20) {
-            int which = random.nextInt(34);
-            if (which < 2) {
+        while (calls < CALLS - 40) {
+            int which = random.nextInt(35);
+            if (which == 34) {
+                actsAndUndone();
+            } else if (which < 2) {
                 text(random.nextInt(2));
-            } else if (which == 2) {
+            } else if (which < 5) {
                 likeNetworks();
-            } else if (which < 9) {
+            } else if (which < 10) {
                 change();
             } else if (which < 22) {
                 ask();
@@ -169,6 +171,34 @@ public final class ModelTests {
         }
     }
 
+    /** Acts, quotients by normal subgroups among them, then some of them undone, with names and steps in between. */
+    private void actsAndUndone() {
+        int acts = 5 + random.nextInt(7);
+        for (int i = 0; i < acts; i++) {
+            int slot = random.nextInt(2);
+            int set = y.subgroup(slot, random.nextInt(Math.min(4, y.size(slot, 4))));
+            if (i % 3 == 0 && y.kind(slot, set) == 2) {
+                same("quotient(" + slot + ", " + set + ")", x.quotient(slot, set), y.quotient(slot, set));
+                nameOfLast(slot);
+            } else {
+                int step = element(slot);
+                same("step(" + slot + ", " + step + ")", x.step(slot, step), y.step(slot, step));
+            }
+        }
+        int undone = 1 + random.nextInt(acts);
+        for (int i = 0; i < undone; i++) {
+            same("undo", x.undo(), y.undo());
+        }
+        nameOfLast(random.nextInt(2));
+    }
+
+    private void nameOfLast(int slot) {
+        int last = y.size(slot, 0) - 1;
+        int i = random.nextInt(4);
+        same("name(" + slot + ", " + last + ", " + i + ")", x.name(slot, last, i), y.name(slot, last, i));
+        same("size(" + slot + ", 1)", x.size(slot, 1), y.size(slot, 1));
+    }
+
     private void ask() {
         int slot = slot();
         int a = element(slot);
@@ -197,11 +227,12 @@ public final class ModelTests {
         int a = element(slot);
         int b = element(slot);
         int k = random.nextInt(10) == 0 ? odd() : random.nextInt(7) - 1;
-        String at = "(" + slot + ", " + a + ", " + b + ") k " + k;
+        int i = random.nextInt(4) == 0 ? k : random.nextInt(3);
+        String at = "(" + slot + ", " + a + ", " + b + ") k " + k + " i " + i;
         switch (random.nextInt(14)) {
             case 0 -> same("far" + at, x.far(slot, a, b), y.far(slot, a, b));
             case 1 -> same("sphere" + at, x.sphere(slot, k), y.sphere(slot, k));
-            case 2, 3 -> same("way" + at, x.way(slot, a, k), y.way(slot, a, k));
+            case 2, 3 -> same("way" + at, x.way(slot, a, i), y.way(slot, a, i));
             case 4 -> same("ring" + at, x.ring(slot), y.ring(slot));
             case 5 -> same("parts" + at, x.parts(slot), y.parts(slot));
             case 6 -> same("symmetries" + at, x.symmetries(slot), y.symmetries(slot));
